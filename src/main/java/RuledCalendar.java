@@ -495,6 +495,9 @@ public final class RuledCalendar {
 
     /** What the parts of the rule that was read last say. */
     private static final class Rule {
+        /** More than there are days. */
+        private static final int NO_COUNT = 1000000;
+
         int present;
         Frequency frequency;
         int interval;
@@ -523,7 +526,7 @@ public final class RuledCalendar {
             present = 0;
             frequency = Frequency.DAILY;
             interval = 1;
-            count = Integer.MAX_VALUE;
+            count = NO_COUNT;
             until = LAST_DATE;
             months = 0;
             monthDays = 0;

@@ -138,6 +138,9 @@ public final class PromisesTest {
         due("wipe leaves things", x.wipe(), 10);
         due("wipe leaves things", x.comes(0, 20240101), true);
         due("an empty text is no rule", x.thing(20240101), NONE);
+        due("wiped bytes are gone", make(x, "FREQ=DAIL", 20240101), NONE);
+        due("wiped bytes are gone", make(x, "FREQ=DAILY;COUNT=1000", 20240101), NONE);
+        due("wiped bytes are gone", make(x, "FREQ=DAILY;COUNT=100", 20240101), 1);
     }
 
     private static void promise4Thing() {
@@ -207,6 +210,10 @@ public final class PromisesTest {
         fault("FREQ=1", 1, 5);
         fault("FREQ=DAIL", 1, 5);
         fault("FREQ=DAILYX", 1, 5);
+        fault("FREQ=DAILYZ", 1, 5);
+        fault("FREQ=DAILYA", 1, 5);
+        fault("FREQ=DAILY[", 1, 10);
+        fault("FREQ=DAILY@", 1, 10);
         fault("FREQ=DAILY1", 1, 10);
         fault("FREQ=DAILY,WEEKLY", 1, 10);
         fault("FREQ=DAILY=", 1, 10);
@@ -435,6 +442,8 @@ public final class PromisesTest {
         dates("FREQ=WEEKLY;BYMONTH=2", 20240101, 20240205, 20240212, 20240219, 20240226, 20250203);
         dates("FREQ=WEEKLY;BYDAY=TU,TH,SA;BYSETPOS=-1,1", 20240105, 20240106, 20240109, 20240113);
         dates("FREQ=WEEKLY;BYDAY=MO,FR;BYSETPOS=2", 20231230, 20240105, 20240112);
+        dates("FREQ=WEEKLY;BYDAY=MO,FR;BYSETPOS=2", 20250102, 20250103, 20250110);
+        dates("FREQ=WEEKLY;BYDAY=MO,FR;BYSETPOS=-1;UNTIL=20241231", 20241225, 20241227, 0);
         dates("FREQ=WEEKLY;BYDAY=MO,FR;BYSETPOS=-1", 21991220, 21991220, 21991227, 21991230, 0);
         dates("FREQ=MONTHLY", 20240131, 20240131, 20240331, 20240531);
         dates("FREQ=MONTHLY;BYMONTH=2", 20240130, 0);
