@@ -1,81 +1,52 @@
-import java.lang.reflect.Field;
-import java.lang.reflect.Method;
+import java.lang.reflect.Member;
 import java.lang.reflect.Modifier;
+import java.util.ArrayList;
 import java.util.Arrays;
 import java.util.List;
-import java.util.concurrent.Callable;
+import java.util.Set;
+import java.util.TreeSet;
 
 /** For each promise of the document: ordinary inputs, the edges that it names, and wrong inputs. */
-public final class PromisesTest {
-    private static final int NONE = RuledCalendar.NONE;
-    private static final Class<?> ARGUMENT = IllegalArgumentException.class;
-    private static final Class<?> INDEX = IndexOutOfBoundsException.class;
-    private static final int[] NO_DATES = {0, -1, 18991231, 22000101, 19000229, 20230229, 21000229, 20240230,
-        20240431, 20240100, 20240132, 20240001, 20241301, 21991232, -20240101,
-        Integer.MIN_VALUE, Integer.MAX_VALUE};
-
-    private static int wrong = 0;
-
-    private static void due(String what, Object got, Object want) {
-        if (!got.equals(want)) {
-            wrong++;
-            System.out.println(what + " answered " + got + ", due is " + want);
-        }
-    }
-
-    private static void refused(String what, Class<?> kind, Callable<?> call) {
-        Object got;
-        try {
-            got = call.call();
-        } catch (Exception e) {
-            got = e.getClass();
-        }
-        due(what, got == null ? "nothing" : got, kind);
-    }
-
-    private static void write(RuledCalendar x, String text) {
-        x.wipe();
-        for (int i = 0; i < text.length(); i++) {
-            x.feed(1, text.charAt(i));
-        }
-    }
-
-    private static int make(RuledCalendar x, String rule, int start) {
-        write(x, rule);
-        return x.thing(start);
-    }
-
-    /** The first dates of a thing with a rule; 0 behind them says that there are no more. */
-    private static void dates(String rule, int start, int... want) {
-        RuledCalendar x = new RuledCalendar();
-        due(rule + " is thing", make(x, rule, start), 0);
-        for (int k = 0; k < want.length; k++) {
-            due(rule + " from " + start + ", date " + k, x.date(0, k), want[k] == 0 ? NONE : want[k]);
-        }
-    }
-
-    private static void fault(String text, int kind, int place) {
-        RuledCalendar x = new RuledCalendar();
-        due("'" + text + "' thing", make(x, text, 20240101), kind == 0 ? 0 : NONE);
-        due("'" + text + "' fault", x.fault(), kind);
-        due("'" + text + "' place", x.place(), place);
-    }
+public final class PromisesTest extends Checks {
+    private static final String[] FACE = {
+        "public static final int RuledCalendar.NONE",
+        "public RuledCalendar()",
+        "public int RuledCalendar.feed(int,long) throws java.lang.IllegalArgumentException",
+        "public int RuledCalendar.wipe()",
+        "public int RuledCalendar.thing(int) throws java.lang.IllegalArgumentException",
+        "public int RuledCalendar.fault()",
+        "public int RuledCalendar.place()",
+        "public void RuledCalendar.drop(int) throws java.lang.IndexOutOfBoundsException",
+        "public boolean RuledCalendar.except(int,int,boolean) throws BOTH",
+        "public boolean RuledCalendar.besides(int,int,boolean) throws BOTH",
+        "public boolean RuledCalendar.comes(int,int) throws BOTH",
+        "public int RuledCalendar.next(int,int) throws BOTH",
+        "public int RuledCalendar.date(int,int) throws BOTH",
+        "public int RuledCalendar.times(int,int,int) throws BOTH",
+        "public int RuledCalendar.list(int,int) throws java.lang.IllegalArgumentException",
+        "public long RuledCalendar.item(int) throws java.lang.IndexOutOfBoundsException",
+        "public int RuledCalendar.busiest(int,int) throws java.lang.IllegalArgumentException",
+        "public int RuledCalendar.quiet(int,int) throws java.lang.IllegalArgumentException",
+        "public int RuledCalendar.shifted(int,int) throws java.lang.IllegalArgumentException",
+    };
 
     private static void face() {
-        List<String> methods = Arrays.asList("feed", "wipe", "thing", "fault", "place", "drop", "except", "besides",
-                "comes", "next", "date", "times", "list", "item", "busiest", "quiet", "shifted");
-        for (Method m : RuledCalendar.class.getDeclaredMethods()) {
-            if (!m.isSynthetic()) {
-                due("method " + m.getName() + " is public", Modifier.isPublic(m.getModifiers()),
-                        methods.contains(m.getName()));
+        Set<String> want = new TreeSet<>();
+        for (String line : FACE) {
+            want.add(line.replace("BOTH",
+                    "java.lang.IndexOutOfBoundsException,java.lang.IllegalArgumentException"));
+        }
+        Set<String> got = new TreeSet<>();
+        List<Member> members = new ArrayList<>(Arrays.asList(RuledCalendar.class.getDeclaredMethods()));
+        members.addAll(Arrays.asList(RuledCalendar.class.getDeclaredFields()));
+        members.addAll(Arrays.asList(RuledCalendar.class.getDeclaredConstructors()));
+        for (Member m : members) {
+            if (!m.isSynthetic() && !Modifier.isPrivate(m.getModifiers())) {
+                got.add(m.toString());
             }
         }
-        for (Field f : RuledCalendar.class.getDeclaredFields()) {
-            due("field " + f.getName() + " is private", Modifier.isPrivate(f.getModifiers()),
-                    !f.getName().equals("NONE"));
-        }
-        due("constructors", RuledCalendar.class.getConstructors().length, 1);
-        due("final", Modifier.isFinal(RuledCalendar.class.getModifiers()), true);
+        due("the face", got, want);
+        due("the class", Modifier.toString(RuledCalendar.class.getModifiers()), "public final");
         due("NONE", NONE, -1);
     }
 
@@ -88,10 +59,7 @@ public final class PromisesTest {
         due("new busiest", x.busiest(19000101, 21991231), NONE);
         for (int i = -1; i < 13; i++) {
             int thing = i;
-            refused("new drop " + i, INDEX, () -> {
-                x.drop(thing);
-                return null;
-            });
+            refused("new drop " + i, INDEX, () -> drop(x, thing));
         }
         refused("new item", INDEX, () -> new RuledCalendar().item(0));
         RuledCalendar one = new RuledCalendar();
@@ -318,15 +286,9 @@ public final class PromisesTest {
         x.drop(0);
         due("the list stays", x.item(0), 16L * 20240101);
         refused("a dropped thing", INDEX, () -> x.date(0, 0));
-        refused("a dropped thing", INDEX, () -> {
-            x.drop(0);
-            return null;
-        });
+        refused("a dropped thing", INDEX, () -> drop(x, 0));
         for (int thing : new int[] {-1, 2, 12, Integer.MIN_VALUE, Integer.MAX_VALUE}) {
-            refused("drop " + thing, INDEX, () -> {
-                x.drop(thing);
-                return null;
-            });
+            refused("drop " + thing, INDEX, () -> drop(x, thing));
         }
         due("the other one stays", x.times(1, 19000101, 21991231), 3);
         due("it is listed no more", x.list(20240101, 20240131), 3);
@@ -572,26 +534,23 @@ public final class PromisesTest {
     }
 
     public static void main(String[] args) {
-        face();
-        promise1New();
-        promise2Feed();
-        promise3Wipe();
-        promise4Thing();
-        promises5And6Fault();
-        promise7Drop();
-        promise8Except();
-        promise9Besides();
-        promise10Comes();
-        promise11Next();
-        promise12Date();
-        promise13Times();
-        promises14And15List();
-        promise16Busiest();
-        promise17Quiet();
-        promise18Shifted();
-        System.out.println(wrong == 0 ? "all answers are as due" : wrong + " answers are not as due");
-        if (wrong != 0) {
-            System.exit(1);
-        }
+        sentence("The public face", PromisesTest::face);
+        sentence("Promise 1", PromisesTest::promise1New);
+        sentence("Promise 2", PromisesTest::promise2Feed);
+        sentence("Promise 3", PromisesTest::promise3Wipe);
+        sentence("Promise 4", PromisesTest::promise4Thing);
+        sentence("Promises 5 and 6", PromisesTest::promises5And6Fault);
+        sentence("Promise 7", PromisesTest::promise7Drop);
+        sentence("Promise 8", PromisesTest::promise8Except);
+        sentence("Promise 9", PromisesTest::promise9Besides);
+        sentence("Promise 10", PromisesTest::promise10Comes);
+        sentence("Promise 11", PromisesTest::promise11Next);
+        sentence("Promise 12", PromisesTest::promise12Date);
+        sentence("Promise 13", PromisesTest::promise13Times);
+        sentence("Promises 14 and 15", PromisesTest::promises14And15List);
+        sentence("Promise 16", PromisesTest::promise16Busiest);
+        sentence("Promise 17", PromisesTest::promise17Quiet);
+        sentence("Promise 18", PromisesTest::promise18Shifted);
+        end();
     }
 }

@@ -1,3 +1,4 @@
+import java.time.LocalDate;
 import java.util.ArrayList;
 import java.util.Collections;
 import java.util.List;
@@ -66,7 +67,11 @@ public final class RandomRunsTest {
             return odd[below(odd.length)];
         }
         int year = below(3) == 0 ? 1900 + below(300) : 2020 + below(10);
-        return year * 10000 + (1 + below(12)) * 100 + 1 + below(28);
+        if (below(12) == 0) {
+            year = random.nextBoolean() ? 1900 : 2199;
+        }
+        LocalDate first = LocalDate.of(year, 1 + below(12), 1);
+        return NaiveCalendar.number(first.plusDays(below(first.lengthOfMonth())));
     }
 
     private String rule() {
@@ -78,7 +83,7 @@ public final class RandomRunsTest {
         if (below(4) == 0) {
             parts.add("COUNT=" + (1 + below(below(2) == 0 ? 999 : 9)));
         } else if (below(4) == 0) {
-            parts.add("UNTIL=" + (2020 + below(100)) + (10 + below(3)) + (10 + below(18)));
+            parts.add("UNTIL=" + Math.abs((long) anyDate()));
         }
         if (below(3) == 0) {
             parts.add("BYMONTH=" + many(() -> "" + (1 + below(12))));
