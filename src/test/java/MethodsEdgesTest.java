@@ -405,6 +405,37 @@ public final class MethodsEdgesTest extends Checks {
         due("quiet", x.quiet(20200101, 1000), 20200101);
     }
 
+    private static void questionsKnowExceptionsAndDaysBesides() {
+        RuledCalendar x = with("FREQ=DAILY;COUNT=4", 20240130);
+        make(x, "FREQ=YEARLY;COUNT=1", 20240201);
+        x.except(0, 20240131, true);
+        x.besides(0, 20240128, true);
+        x.besides(1, 20240128, true);
+        x.besides(1, 20240205, true);
+        int[] dates = {20240128, 20240130, 20240201, 20240202};
+        for (int k = 0; k < 4; k++) {
+            due("date " + k, x.date(0, k), dates[k]);
+            due("next before date " + k, x.next(0, x.shifted(dates[k], -1)), dates[k]);
+        }
+        due("times", x.times(0, 20240128, 20240131), 2);
+        due("list", x.list(20240128, 20240205), 7);
+        long[] items = {16L * 20240128, 16L * 20240128 + 1, 16L * 20240130, 16L * 20240201, 16L * 20240201 + 1,
+            16L * 20240202, 16L * 20240205 + 1};
+        for (int i = 0; i < items.length; i++) {
+            due("item " + i, x.item(i), items[i]);
+        }
+        due("busiest", x.busiest(20240101, 20240229), 20240128);
+        due("busiest behind it", x.busiest(20240129, 20240229), 20240201);
+        due("quiet at an exception", x.quiet(20240130, 1), 20240131);
+        due("quiet before a day besides", x.quiet(20240130, 2), 20240203);
+        due("quiet behind all", x.quiet(20240130, 3), 20240206);
+        x.except(1, 20240128, true);
+        x.besides(1, 20240205, false);
+        due("busiest, one less", x.busiest(20240101, 20240229), 20240201);
+        due("quiet, one less", x.quiet(20240130, 3), 20240203);
+        due("list, two less", x.list(20240128, 20240205), 5);
+    }
+
     // Promises 10 to 13
 
     private static void comesAtTheEdges() {
@@ -748,6 +779,8 @@ public final class MethodsEdgesTest extends Checks {
     }
 
     private static void questions() {
+        sentence("10 to 17: exceptions and days besides",
+                MethodsEdgesTest::questionsKnowExceptionsAndDaysBesides);
         sentence("10: at a date", MethodsEdgesTest::comesAtTheEdges);
         sentence("11: behind another one; NONE when there is none", MethodsEdgesTest::nextAtTheEdges);
         sentence("12: 0 is the first one; NONE when there are not so many", MethodsEdgesTest::dateAtTheEdges);
