@@ -23,6 +23,10 @@ public final class LanguageTest extends Checks {
             "System.arraycopy", "Integer.bitCount", "Integer.numberOfTrailingZeros", "Integer.compare",
             "Math.min", "Math.max", "Math.abs", "Math.floorDiv", "Math.floorMod");
 
+    /** A loop with a counter against a bound, the same counter in all three places. */
+    private static final String COUNTED =
+            "for \\(int (\\w+) = [^;]+; [^;]*\\b\\1 (<|<=|>|>=) [^;]+; \\1(\\+\\+|--| /= 2)\\) \\{";
+
     private static List<String> lines = new ArrayList<>();
     /** The text without comments and without what stands between quotes. */
     private static String code = "";
@@ -144,8 +148,7 @@ public final class LanguageTest extends Checks {
     private static void loops() {
         due("loops by while", found("\\b(while|do)\\b"), List.of());
         for (String head : found("\\bfor \\([^\n]*\\) \\{")) {
-            boolean counts = head.matches("for \\(int (\\w+) = [^;]+; [^;]*\\b\\1 (<|<=|>|>=) [^;]+; \\1(\\+\\+|--| /= 2)\\) \\{");
-            due(head + " has a counter and a bound", counts, true);
+            due(head + " has a counter and a bound", head.matches(COUNTED), true);
         }
         due("there are loops", found("\\bfor \\(").size() > 10, true);
         due("all loops were seen", found("\\bfor \\([^\n]*\\) \\{").size(), found("\\bfor\\b").size());

@@ -12,14 +12,14 @@ import java.util.concurrent.Callable;
 import java.util.function.BiConsumer;
 import java.util.regex.Matcher;
 import java.util.regex.Pattern;
-import javax.tools.ToolProvider;
 
 /** The calls in README.md, compiled and run, answer what is written behind them. */
 public final class ReadmeTest extends Checks {
     private static final Path README = Path.of("README.md");
     private static final Path TESTS = Path.of("src", "test", "java");
     /** A call, perhaps with a variable before it, and the answer that is told behind it. */
-    private static final Pattern TOLD = Pattern.compile("(\\w+ (\\w+) = )?(calendar\\.\\w+\\(.*\\)); +// ([^:]+)(: .*)?");
+    private static final Pattern TOLD =
+            Pattern.compile("(\\w+ (\\w+) = )?(calendar\\.\\w+\\(.*\\)); +// ([^:]+)(: .*)?");
 
     private final List<String> members = new ArrayList<>();
     private final List<String> statements = new ArrayList<>();
@@ -73,8 +73,8 @@ public final class ReadmeTest extends Checks {
     private void compileAndRun(Path directory) throws Exception {
         Path file = directory.resolve("ReadmeProgram.java");
         Files.writeString(file, program());
-        int failed = ToolProvider.getSystemJavaCompiler().run(null, null, null,
-                "-cp", System.getProperty("java.class.path"), "-d", directory.toString(), file.toString());
+        int failed = new ProcessBuilder("javac", "-cp", System.getProperty("java.class.path"),
+                "-d", directory.toString(), file.toString()).inheritIO().start().waitFor();
         due("what its compiler answers", failed, 0);
         if (failed != 0) {
             return;
